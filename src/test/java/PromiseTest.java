@@ -259,7 +259,10 @@ public final class PromiseTest {
         Due.is("no hook", x.rod(0, 9), NONE);
         Due.is("no whole bead: 10 by 4", x.rod(0, 10), FAR);
         x.change(1, 0, 0);
-        Due.is("the hook has no 0", x.rod(0, 9), NONE);
+        Due.is("the left arm is not 0", x.rod(0, 9), NONE);
+        x.exchange(0, 1);
+        Due.is("nor is the right one", x.rod(0, 9), NONE);
+        x.exchange(0, 1);
         x.change(0, 2, 5);
         Due.is("all hooks: the least", x.rod(0, 9), 1);
         HungMobile far = Due.hung("5*1*;b6,b0");
@@ -779,6 +782,7 @@ public final class PromiseTest {
     private static void promise25Restore() {
         HungMobile x = Due.hung(THREE);
         Due.is("none kept", x.restore(), STATE);
+        x.move(0, 1);
         x.move(1, 2);
         x.change(0, 1, 5);
         x.exchange(0, 3);
@@ -786,8 +790,10 @@ public final class PromiseTest {
         x.drop(1);
         x.hour();
         x.see(0, 0, 3, 1);
+        Due.is("6 by a bell of 3", x.thing(0, 6), 1 << 3);
         long then = x.digest();
         x.image();
+        x.move(0, 2);
         x.move(1, 1);
         x.change(0, 2, 1);
         x.exchange(0, 1);
@@ -867,6 +873,7 @@ public final class PromiseTest {
     }
 
     private static void digestIs(HungMobile x, String letters) {
+        long told = x.digest();
         long h = 1303;
         for (int rod = 0; rod < x.count(0); rod++) {
             for (int what = 0; what <= 10; what++) {
@@ -891,7 +898,8 @@ public final class PromiseTest {
         for (int what = 0; what <= 10; what++) {
             h = 31 * h + x.count(what);
         }
-        Due.is("digest", x.digest(), h);
+        Due.is("digest", told, h);
+        Due.is("digest again", x.digest(), h);
     }
 
     private static void refusalsChangeNothing() {
