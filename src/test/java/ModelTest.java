@@ -1,4 +1,3 @@
-import java.util.List;
 import java.util.Random;
 
 /** Long runs of calls by chance, each answer held against PlainModel. */
@@ -6,12 +5,14 @@ public final class ModelTest {
     private static final int[] ODD_NUMBERS = {-1, Integer.MIN_VALUE, Integer.MAX_VALUE, 100, 20, 10, 46, -100};
 
     private final Random random;
+    private final Chance chance;
     private final HungMobile x = new HungMobile();
     private final PlainModel model = new PlainModel();
     private final StringBuilder run = new StringBuilder();
 
     private ModelTest(int seed) {
         random = new Random(seed);
+        chance = new Chance(seed);
     }
 
     public static void main(String[] args) {
@@ -38,25 +39,8 @@ public final class ModelTest {
         Due.is(call, got, want);
     }
 
-    /** Few SIZES, KINDS and lengths in some runs, so that much is LEVEL; all of them in others. */
     private void hang() {
-        List<String> all = AllMobiles.whole();
-        String text = all.get(random.nextInt(all.size()));
-        if (random.nextInt(4) == 0) {
-            text = all.get(random.nextInt(12));
-        }
-        boolean few = random.nextBoolean();
-        StringBuilder letters = new StringBuilder(text);
-        int things = text.indexOf(';');
-        for (int i = 0; i < text.length(); i++) {
-            if (i < things && i % 5 % 2 == 0 && i % 5 < 4) {
-                letters.setCharAt(i, (char) ('1' + random.nextInt(few ? 2 : 9)));
-            } else if (i > things && (i - things) % 3 == 1) {
-                letters.setCharAt(i, "bdlfo".charAt(random.nextInt(few ? 3 : 5)));
-            } else if (i > things && (i - things) % 3 == 2) {
-                letters.setCharAt(i, (char) ('0' + random.nextInt(few ? 4 : 10)));
-            }
-        }
+        String letters = chance.mobile();
         due("blank", x.blank(), model.blank());
         for (int i = 0; i < letters.length(); i++) {
             int code = letters.charAt(i);
